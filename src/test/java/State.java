@@ -52,7 +52,7 @@ record State(int[] row, int[] clip) {
     }
 
     /** Pastes at the end, since only a paste shows what stands in the clip. */
-    private void isIn(SplayRow x, String after) {
+    void isIn(SplayRow x, String after) {
         Check.row(after, x, row);
         Check.due(after + ": clip()", x.clip(), clip.length);
         Check.due(after + ": paste at the end", x.paste(row.length), row.length + clip.length);
